@@ -1224,7 +1224,7 @@ public final class WakeSaver {
     /** What is done by hand, tick by tick. */
     private static final class Hand {
         private final Calls came = new Calls(CALLS_MOST + RUNG_MOST);
-        private final Wakes hindsight = new Wakes(TICK_MOST + 1);
+        private final Wakes hindsight = new Wakes(CALLS_MOST + RUNG_MOST);
         private boolean hindsightKnown;
         private int plannedCame;
         private int rung;
@@ -1448,8 +1448,12 @@ public final class WakeSaver {
             }
         }
 
+        /**
+         * Every round wakes for the call behind 0 whose LATEST is first, so a best one has a wake
+         * no later than that; and from any wake of a best one on there are no more wakes.
+         */
         private void choose() {
-            for (int p = 0; p < hyper; p++) {
+            for (int p = 0; p < hyper && p <= reach[0]; p++) {
                 int wakes = wakesFrom(p);
                 if (size == 0 || wakes < size) {
                     size = wakes;

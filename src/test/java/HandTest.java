@@ -36,6 +36,8 @@ public final class HandTest {
         CHECK.same("by rule 0", saver.go(8), 1);
         CHECK.same("its wake", saver.hand(6), 13);
         CHECK.same("NOW", saver.count(6), 14);
+        CHECK.yes("2 again", saver.rule(2));
+        CHECK.same("count(7) again", saver.count(7), 2);
     }
 
     private static void ticks() {

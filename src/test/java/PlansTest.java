@@ -14,6 +14,7 @@ public final class PlansTest {
         prices();
         answers();
         many();
+        lastTick();
         CHECK.finish();
     }
 
@@ -179,6 +180,13 @@ public final class PlansTest {
                 CHECK.same("answer(" + plan + ", " + call + ")", saver.answer(plan, call), due[plan][call]);
             }
             CHECK.same("answer to none", saver.answer(plan, 4), -1);
+        }
+    }
+
+    private static void lastTick() {
+        WakeSaver saver = Check.told("class a;once a 300;once a 0;length 300;");
+        for (int plan = 0; plan < 6; plan++) {
+            rowOfWakes("at both ends", saver, plan, 0, 300);
         }
     }
 

@@ -34,6 +34,10 @@ public final class TextTest {
                 CHECK.same("new price", saver.price(plan, what), 0);
             }
         }
+        int[] hand = {0, 0, 0, 0, 0, -1, -1, 0, 0, -1};
+        for (int what = 0; what < hand.length; what++) {
+            CHECK.same("new hand(" + what + ")", saver.hand(what), hand[what]);
+        }
         CHECK.same("new enough", saver.enough(0, 5), -1);
         CHECK.same("new go", saver.go(300), 0);
         CHECK.same("new now", saver.count(6), 61);
@@ -100,6 +104,7 @@ public final class TextTest {
         good("class abcdef;class b of abcdef slack 99 weight 0;class c of b weight 007;", 0);
         good("class a slack 000;once a 300;every a 60 300;every a 1 0;", 3);
         good("length 1;length 300;price 1;price 99;stay 0;stay 20;", 0);
+        good("class azbycx;class z;class y of z;once z 0;", 1);
         good("class classy;class o;class ofof;once classy 0;", 1);
         good("class a;length 199;every a 1 0;", 1);
         good("class a;length 60;every a 1 0;every a 1 0;every a 1 0;once a 0;once a 61;"
@@ -209,7 +214,11 @@ public final class TextTest {
         bad("class a;length 200;every a 1 0;", 5, 31);
         bad("class a;every a 1 0;length 200; \n", 5, 33);
         bad("class a;every a 1 0;every a 1 0;every a 1 0;every a 3 3;", 5, 56);
-        good("class a;every a 1 0;every a 1 0;every a 1 0;every a 4 1;once a 3;once a 61;", 6);
+        // 183, 15, and 2 or 3, one of them just at LENGTH
+        String most = "class a;every a 1 0;every a 1 0;every a 1 0;every a 4 1;once a 3;once a 61;every a 9 60;";
+        good(most, 7);
+        bad(most + "once a 60;", 5, 98);
+        bad(most + "every a 60 60;", 5, 102);
     }
 
     private static void firstFaultWins() {
@@ -244,6 +253,7 @@ public final class TextTest {
         saver.rule(0);
         saver.go(2);
         saver.ring(0);
+        CHECK.same("HINDSIGHT ahead", saver.hand(7), 13);
         CHECK.same("second text", Check.tell(saver, "class b;once b 0;once b 0;"), 2);
         int[] due = {1, 2, 2, 60, 10, 1, 0, 2, 0};
         for (int what = 0; what < due.length; what++) {
