@@ -54,8 +54,8 @@ public final class WakeSaver {
     private final Round otherRound;
 
     public WakeSaver() {
-        tape = new Tape();
-        reader = new Reader(tape);
+        reader = new Reader();
+        tape = reader.tape();
         setup = new Setup();
         spare = new Setup();
         calls = new Calls(CALLS_MOST);
@@ -300,11 +300,7 @@ public final class WakeSaver {
         if (!setup.hasKind(kind) || slack < 0 || slack > SLACK_MOST || what < 0 || what > OF_ROUND) {
             return NONE;
         }
-        int own = setup.ownSlack(kind);
-        setup.setSlack(kind, slack);
-        int found = supposed(what);
-        setup.setSlack(kind, own);
-        return found;
+        return supposed(kind, slack, what);
     }
 
     public int enough(int kind, int n) {
@@ -316,7 +312,7 @@ public final class WakeSaver {
         int most = SLACK_MOST + 1;
         for (int k = 0; k <= SLACK_MOST && least < most; k++) {
             int middle = (least + most) / 2;
-            if (would(kind, middle, FEWEST) <= n) {
+            if (supposed(kind, middle, FEWEST) <= n) {
                 most = middle;
             } else {
                 least = middle + 1;
@@ -357,19 +353,22 @@ public final class WakeSaver {
         return forEver;
     }
 
-    /** What would() asks for, by the classes as they are in the setup just now. */
-    private int supposed(int what) {
+    /** What would() asks for, if there are such a class, slack and what. */
+    private int supposed(int kind, int slack, int what) {
+        int own = setup.ownSlack(kind);
+        setup.setSlack(kind, slack);
         if (what == OF_ROUND) {
             otherRound.make(setup);
-            return otherRound.exists() ? otherRound.size() : NONE;
+        } else {
+            otherCalls.layOut(setup);
+            planner.make(what, otherCalls, setup, otherWakes);
         }
-        otherCalls.layOut(setup);
-        planner.make(what, otherCalls, setup, otherWakes);
+        setup.setSlack(kind, own);
         switch (what) {
             case FEWEST: return otherWakes.size();
             case CHEAPEST: return otherWakes.costFor(otherCalls, setup.wakePrice());
             case THRIFTIEST: return otherWakes.energy(setup.wakePrice(), setup.stay());
-            default: return NONE;
+            default: return otherRound.exists() ? otherRound.size() : NONE;
         }
     }
 
@@ -491,13 +490,12 @@ public final class WakeSaver {
         private static final int TOO_MANY = 4;
         private static final int TOO_MANY_CALLS = 5;
 
-        private final Tape tape;
+        private final Tape tape = new Tape();
         private int fault;
-        private int place;
+        private int place = NONE;
 
-        Reader(Tape read) {
-            tape = read;
-            place = NONE;
+        Tape tape() {
+            return tape;
         }
 
         int latestFault() {
@@ -567,8 +565,16 @@ public final class WakeSaver {
             if (tape.reads(OF)) {
                 parent = takeKind(into);
             }
-            int slack = takeOwn(SLACK, SLACK_MOST);
-            int weight = takeOwn(WEIGHT, WEIGHT_MOST);
+            int slack = NONE;
+            if (tape.reads(SLACK)) {
+                tape.advance();
+                slack = takeNumber(0, SLACK_MOST);
+            }
+            int weight = NONE;
+            if (tape.reads(WEIGHT)) {
+                tape.advance();
+                weight = takeNumber(0, WEIGHT_MOST);
+            }
             if (fault != 0) {
                 return false;
             }
@@ -602,11 +608,8 @@ public final class WakeSaver {
             return fault == 0;
         }
 
-        /** Behind a word: the class whose name comes; NONE with a fault, or behind one. */
+        /** Behind a word: the class whose name comes; NONE with a fault. */
         private int takeKind(Setup into) {
-            if (fault != 0) {
-                return NONE;
-            }
             tape.advance();
             if (!atName()) {
                 fails(UNFIT);
@@ -619,15 +622,6 @@ public final class WakeSaver {
             }
             tape.advance();
             return kind;
-        }
-
-        /** What a word that may be left out gives a class of its own; NONE without. */
-        private int takeOwn(int word, int most) {
-            if (fault != 0 || !tape.reads(word)) {
-                return NONE;
-            }
-            tape.advance();
-            return takeNumber(0, most);
         }
 
         /** The number that comes; NONE with a fault, or behind one. */
@@ -1022,7 +1016,7 @@ public final class WakeSaver {
                     least = middle + 1;
                 }
             }
-            return tickAt(least);
+            return least < size ? ticks[least] : NONE;
         }
 
         int costFor(Calls calls, int price) {

@@ -142,6 +142,10 @@ public final class TextTest {
         bad("class a slack 3 slack 3;", 1, 16);
         bad("class a weight 3 weight 3;", 1, 17);
         bad("class a of;", 1, 10);
+        bad("class a of slack 5;", 1, 11);
+        bad("class a of b slack 100;", 2, 11);
+        bad("class a slack weight 5;", 1, 14);
+        bad("class a slack 100 weight;", 3, 14);
         bad("class a 5;", 1, 8);
         bad("class a b;", 1, 8);
         bad("class a;once a;", 1, 14);
