@@ -101,6 +101,10 @@ public final class HandTest {
         saver.go(300);
         CHECK.same("CALLS at the end", saver.hand(0), 300);
         CHECK.same("none open", saver.hand(1), 0);
+        saver.slacken(0, 0);
+        // laid with 99: 0 to 99 and 100 to 199 by two wakes or more, whatever the class tells now
+        CHECK.yes("HINDSIGHT of 300", saver.hand(8) >= 2 && saver.hand(8) < 200);
+        CHECK.yes("no dearer than what was done", saver.hand(7) <= saver.hand(3));
         Check.tell(saver, "class a;");
         CHECK.same("anew", saver.ring(0), 0);
     }
