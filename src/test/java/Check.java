@@ -1,6 +1,7 @@
 /** What the tests share: comparing answers, and telling an object a text by its tape. */
 final class Check {
     private final String title;
+    private int compared;
     private int wrong;
 
     Check(String title) {
@@ -8,6 +9,7 @@ final class Check {
     }
 
     void same(String what, long got, long want) {
+        compared++;
         if (got != want) {
             wrong++;
             if (wrong <= 20) {
@@ -22,6 +24,11 @@ final class Check {
 
     void no(String what, boolean got) {
         same(what, got ? 1 : 0, 0);
+    }
+
+    /** How many answers were compared so far. */
+    int compared() {
+        return compared;
     }
 
     /** Ends the test: exit code 1 if an answer was wrong. */
