@@ -78,10 +78,7 @@ final class ClassSentences extends Sentences {
     private void namesOf1To6() {
         WakeSaver saver = good("class a;class z;class abcdef;class abcdeg;class bbcdef;class zzzzzz;"
                 + "once abcdeg 1;once zzzzzz 1;once z 1;once zzzzzz 2;", 4);
-        int[] timers = {0, 1, 0, 1, 0, 2};
-        for (int kind = 0; kind < timers.length; kind++) {
-            same("TIMERS of " + kind, saver.kind(kind, 5), timers[kind]);
-        }
+        eachKind(saver, 5, 0, 1, 0, 1, 0, 2);
         bad("class ;", 1, 6);
         bad("class abcdefg;", 1, 6);
         bad("class zzzzzzz;", 1, 6);
@@ -90,50 +87,41 @@ final class ClassSentences extends Sentences {
     private void elderParents() {
         WakeSaver saver = good("class a;class b of a;class c of b;class d of c;class e of d;class f of e;class g of f;"
                 + "class h of g;", 0);
-        for (int kind = 0; kind < 8; kind++) {
-            same("PARENT of " + kind, saver.kind(kind, 0), kind - 1);
-        }
+        eachKind(saver, 0, NONE, 0, 1, 2, 3, 4, 5, 6);
         bad("class a of a;", 2, 11);
         bad("class a of b;class b;", 2, 11);
     }
 
     private void ownSlacks() {
-        WakeSaver saver = good("class a slack 0;class b slack 99;class c;", 0);
-        same("0", saver.kind(0, 3), 0);
-        same("99", saver.kind(1, 3), 99);
-        same("none", saver.kind(2, 3), NONE);
+        eachKind(good("class a slack 0;class b slack 99;class c;", 0), 3, 0, 99, NONE);
         bad("class a slack 100;", 3, 14);
     }
 
     private void ownWeights() {
-        WakeSaver saver = good("class a weight 0;class b weight 9;class c;", 0);
-        same("0", saver.kind(0, 4), 0);
-        same("9", saver.kind(1, 4), 9);
-        same("none", saver.kind(2, 4), NONE);
+        eachKind(good("class a weight 0;class b weight 9;class c;", 0), 4, 0, 9, NONE);
         bad("class a weight 10;", 3, 15);
     }
 
     private void inheritedSlack() {
-        String heirs = "class b of a;class c of b;class d of c;class e of d;class f of e;class g of f;class h of g;";
-        same("from the eldest", good("class a slack 7;" + heirs, 0).kind(7, 1), 7);
-        same("from none", good("class a;" + heirs, 0).kind(7, 1), 0);
-        WakeSaver saver = good("class a slack 7;class b of a slack 0;class c of b;class d of a slack 9;"
-                + "class e of a;", 0);
-        int[] due = {7, 0, 0, 9, 7};
-        for (int kind = 0; kind < due.length; kind++) {
-            same("SLACK of " + kind, saver.kind(kind, 1), due[kind]);
-        }
+        inherits("slack", 1, 0);
     }
 
     private void inheritedWeight() {
+        inherits("weight", 2, 1);
+    }
+
+    private void inherits(String word, int what, int ofNone) {
         String heirs = "class b of a;class c of b;class d of c;class e of d;class f of e;class g of f;class h of g;";
-        same("from the eldest", good("class a weight 7;" + heirs, 0).kind(7, 2), 7);
-        same("from none", good("class a;" + heirs, 0).kind(7, 2), 1);
-        WakeSaver saver = good("class a weight 7;class b of a weight 0;class c of b;class d of a weight 9;"
-                + "class e of a;", 0);
-        int[] due = {7, 0, 0, 9, 7};
+        eachKind(good("class a " + word + " 7;" + heirs, 0), what, 7, 7, 7, 7, 7, 7, 7, 7);
+        eachKind(good("class a;" + heirs, 0), what, ofNone, ofNone, ofNone, ofNone, ofNone, ofNone, ofNone, ofNone);
+        String text = "class a OWN 7;class b of a OWN 0;class c of b;class d of a OWN 9;class e of a;class f;";
+        eachKind(good(text.replace("OWN", word), 0), what, 7, 0, 0, 9, 7, ofNone);
+    }
+
+    /** What kind() tells of each CLASS from 0 on. */
+    private void eachKind(WakeSaver saver, int what, int... due) {
         for (int kind = 0; kind < due.length; kind++) {
-            same("WEIGHT of " + kind, saver.kind(kind, 2), due[kind]);
+            same("kind(" + kind + ", " + what + ")", saver.kind(kind, what), due[kind]);
         }
     }
 
@@ -275,40 +263,24 @@ final class ClassSentences extends Sentences {
     // ---- Promise 7: kind
 
     private void parentOfAClass() {
-        WakeSaver saver = Check.told(FAMILY);
-        int[] due = {NONE, 0, 1, 2, NONE, 4, 1};
-        for (int kind = 0; kind < due.length; kind++) {
-            same("kind(" + kind + ", 0)", saver.kind(kind, 0), due[kind]);
-        }
+        eachKind(Check.told(FAMILY), 0, NONE, 0, 1, 2, NONE, 4, 1);
     }
 
     private void slackAndWeightOfAClass() {
         WakeSaver saver = Check.told(FAMILY);
-        int[] slacks = {5, 5, 0, 0, 0, 0, 5};
-        int[] weights = {2, 2, 2, 0, 1, 9, 3};
-        for (int kind = 0; kind < slacks.length; kind++) {
-            same("kind(" + kind + ", 1)", saver.kind(kind, 1), slacks[kind]);
-            same("kind(" + kind + ", 2)", saver.kind(kind, 2), weights[kind]);
-        }
+        eachKind(saver, 1, 5, 5, 0, 0, 0, 0, 5);
+        eachKind(saver, 2, 2, 2, 2, 0, 1, 9, 3);
     }
 
     private void ownOnesOfAClass() {
         WakeSaver saver = Check.told(FAMILY);
-        int[] slacks = {5, NONE, 0, NONE, NONE, NONE, NONE};
-        int[] weights = {2, NONE, NONE, 0, NONE, 9, 3};
-        for (int kind = 0; kind < slacks.length; kind++) {
-            same("kind(" + kind + ", 3)", saver.kind(kind, 3), slacks[kind]);
-            same("kind(" + kind + ", 4)", saver.kind(kind, 4), weights[kind]);
-        }
+        eachKind(saver, 3, 5, NONE, 0, NONE, NONE, NONE, NONE);
+        eachKind(saver, 4, 2, NONE, NONE, 0, NONE, 9, 3);
     }
 
     private void timersOfAClass() {
-        WakeSaver saver = Check.told(FAMILY);
-        int[] due = {1, 2, 0, 1, 0, 0, 0};
-        for (int kind = 0; kind < due.length; kind++) {
-            same("kind(" + kind + ", 5)", saver.kind(kind, 5), due[kind]);
-        }
-        same("24", Check.told("class a;" + "once a 70;".repeat(24)).kind(0, 5), 24);
+        eachKind(Check.told(FAMILY), 5, 1, 2, 0, 1, 0, 0, 0);
+        eachKind(Check.told("class a;" + "once a 70;".repeat(24)), 5, 24);
     }
 
     private void heirs() {

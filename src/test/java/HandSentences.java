@@ -130,9 +130,9 @@ final class HandSentences extends Sentences {
         same("the end of 300", most.count(6), 301);
         same("and no further", most.go(300), NONE);
         same("still", most.count(6), 301);
-        WakeSaver new1 = new WakeSaver();
-        new1.go(300);
-        same("the end of a new object", new1.count(6), 61);
+        WakeSaver untold = new WakeSaver();
+        untold.go(300);
+        same("the end of a new object", untold.count(6), 61);
     }
 
     private void hindsight() {

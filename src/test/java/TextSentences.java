@@ -235,6 +235,7 @@ final class TextSentences extends Sentences {
         same("RULE", saver.count(7), 2);
         hands("anew", saver, 1, 1, 0, 0, 0, 0, NONE, 10, 1);
         saver.go(300);
+        same("HINDSIGHT of it", saver.hand(8), 2);
         same("text of which nothing comes at 0", Check.tell(saver, "class b slack 3 weight 2;once b 1;price 99;"), 1);
         hands("nothing came", saver, 0, 0, 0, 0, 0, NONE, NONE, 0, 0);
         saver.go(300);
@@ -465,11 +466,11 @@ final class TextSentences extends Sentences {
     private void settingLines() {
         counts("settings", good("length 31;price 32;stay 13;", 0), 0, 0, 0, 31, 32, 13);
         for (String word : new String[] {"length", "price", "stay"}) {
-            int long1 = word.length() + 1;
-            bad(word + ";", 1, long1 - 1);
-            bad(word + " a;", 1, long1);
-            bad(word + " 5 5;", 1, long1 + 2);
-            bad(word + " 5 a;", 1, long1 + 2);
+            int at = word.length() + 1;
+            bad(word + ";", 1, at - 1);
+            bad(word + " a;", 1, at);
+            bad(word + " 5 5;", 1, at + 2);
+            bad(word + " 5 a;", 1, at + 2);
         }
     }
 
