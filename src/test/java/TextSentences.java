@@ -562,6 +562,20 @@ final class TextSentences extends Sentences {
         bad("class a{;", 1, 7);
         bad("length a;", 1, 7);
         bad("length length;", 1, 7);
+        numbersAreNoWords();
+    }
+
+    /** The class holds words as numbers, five bits a letter: such a number is not the word itself. */
+    private void numbersAreNoWords() {
+        for (String word : WORDS) {
+            int code = 0;
+            for (char letter : word.toCharArray()) {
+                code = code * 32 + letter - 'a' + 1;
+            }
+            bad(code + " a;", 1, 0);
+            bad("class b;class a " + code + " b;", 1, 16);
+            bad("class b;class a 0" + code + " 5;", 1, 16);
+        }
     }
 
     private void longerRowOfDigits() {
