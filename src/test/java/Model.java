@@ -375,16 +375,21 @@ final class Model {
         return length <= 10 ? bestOfAll(calls, byEnergy) : bestByTails(calls, byEnergy);
     }
 
+    private List<Integer> ticksOf(int set) {
+        List<Integer> ticks = new ArrayList<>();
+        for (int tick = 0; tick <= length; tick++) {
+            if ((set >> tick & 1) == 1) {
+                ticks.add(tick);
+            }
+        }
+        return ticks;
+    }
+
     private List<Integer> bestOfAll(List<Call> calls, boolean byEnergy) {
         List<Integer> best = null;
         int bestValue = 0;
         for (int set = 0; set < 1 << length + 1; set++) {
-            List<Integer> wakes = new ArrayList<>();
-            for (int tick = 0; tick <= length; tick++) {
-                if ((set >> tick & 1) == 1) {
-                    wakes.add(tick);
-                }
-            }
+            List<Integer> wakes = ticksOf(set);
             if (kept(wakes, calls)) {
                 int value = value(wakes, calls, byEnergy);
                 if (best == null || value < bestValue || value == bestValue && compareRows(wakes, best) < 0) {
@@ -433,7 +438,23 @@ final class Model {
         return tails.get(0);
     }
 
-    private static List<Integer> fewest(List<Call> calls) {
+    private List<Integer> fewest(List<Call> calls) {
+        return length <= 10 ? fewestOfAll(calls) : fewestByDue(calls);
+    }
+
+    private List<Integer> fewestOfAll(List<Call> calls) {
+        List<Integer> best = null;
+        for (int set = 0; set < 1 << length + 1; set++) {
+            if (best == null || Integer.bitCount(set) <= best.size()) {
+                List<Integer> wakes = ticksOf(set);
+                boolean better = best == null || wakes.size() < best.size() || compareRows(wakes, best) > 0;
+                best = better && kept(wakes, calls) ? wakes : best;
+            }
+        }
+        return best;
+    }
+
+    private static List<Integer> fewestByDue(List<Call> calls) {
         List<Integer> wakes = new ArrayList<>();
         List<Call> left = new ArrayList<>(calls);
         while (!left.isEmpty()) {
@@ -710,7 +731,7 @@ final class Model {
         other.stay = stay;
         other.slacken(kind, slack);
         return switch (what) {
-            case 0 -> other.wakes(0);
+            case 0 -> fewestByDue(other.theCalls()).size();
             case 1 -> other.price(1, 0);
             case 2 -> other.price(2, 2);
             default -> other.round(2);
